@@ -1,0 +1,33 @@
+/** Brings texts to the tape. */
+final class Mills {
+    private Mills() {
+    }
+
+    /** Feeds a text behind what is on the tape; the blanks that fill up the last feed are cut. */
+    static void feed(WeatherWages x, String text) {
+        int ahead = x.about(11);
+        for (int from = 0; from < text.length(); from += 20) {
+            int[] five = new int[5];
+            for (int i = 0; i < 20; i++) {
+                int c = from + i < text.length() ? text.charAt(from + i) & 255 : ' ';
+                five[i / 4] = five[i / 4] << 8 | c;
+            }
+            x.feed(five[0], five[1], five[2], five[3], five[4]);
+        }
+        x.end(ahead + text.length());
+    }
+
+    static int tell(WeatherWages x, String text) {
+        feed(x, text);
+        return x.mill();
+    }
+
+    static WeatherWages of(String text) {
+        WeatherWages x = new WeatherWages();
+        int men = tell(x, text);
+        if (men < 0) {
+            Due.is("mill() of " + text + " has fault " + x.fault(0) + " at " + x.fault(1), men, 0);
+        }
+        return x;
+    }
+}

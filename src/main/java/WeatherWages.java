@@ -641,9 +641,12 @@ public final class WeatherWages {
 
     /** What of grow is told: postfix code, so that it needs no objects. */
     private static final class Formula {
-        /** Below LEAF a number of the text, from LEAF on a leaf, from DEED on what joins. */
+        /** Below LEAF a number of the text, from LEAF on a leaf, from SIGN on a sign's byte. */
         static final int LEAF = 10000;
-        static final int DEED = 20000;
+        static final int SIGN = 20000;
+        static final int NOT = SIGN + '!';
+        static final int AND = SIGN + '&';
+        static final int OR = SIGN + '|';
         static final int FIRST = 0;
         static final int CROP = 3;
         static final int WEEK = 4;
@@ -684,11 +687,11 @@ public final class WeatherWages {
             int top = 0;
             for (int i = 0; i < length && i < code.length; i++) {
                 int piece = code[i];
-                if (piece >= DEED + 128) {
+                if (piece == NOT) {
                     put(stack, top - 1, cell(stack, top - 1) == 0 ? 1 : 0);
-                } else if (piece >= DEED) {
+                } else if (piece >= SIGN) {
                     top--;
-                    put(stack, top - 1, joined(piece - DEED, cell(stack, top - 1), cell(stack, top)));
+                    put(stack, top - 1, joined(piece - SIGN, cell(stack, top - 1), cell(stack, top)));
                 } else {
                     put(stack, top, piece >= LEAF ? cell(leaves, piece - LEAF) : piece);
                     top++;
@@ -726,7 +729,6 @@ public final class WeatherWages {
     private static final class FormulaReader {
         private static final int UNITS_MOST = 30;
         private static final int DEPTH_MOST = 7;
-        private static final int NOT = Formula.DEED + 128;
 
         private final Scanner scanner;
         private final Formula formula;
@@ -745,7 +747,7 @@ public final class WeatherWages {
             for (int n = 0; n < TAPE_BYTES && fine && scanner.says("or"); n++) {
                 scanner.step();
                 fine = readBoth(depth);
-                formula.write(Formula.DEED + '|');
+                formula.write(Formula.OR);
             }
             return fine;
         }
@@ -755,7 +757,7 @@ public final class WeatherWages {
             for (int n = 0; n < TAPE_BYTES && fine && scanner.says("and"); n++) {
                 scanner.step();
                 fine = readOne(depth);
-                formula.write(Formula.DEED + '&');
+                formula.write(Formula.AND);
             }
             return fine;
         }
@@ -767,7 +769,7 @@ public final class WeatherWages {
                 }
                 scanner.step();
                 boolean fine = readOne(depth + 1);
-                formula.write(NOT);
+                formula.write(Formula.NOT);
                 return fine;
             }
             boolean fine = readSum(depth);
@@ -775,7 +777,7 @@ public final class WeatherWages {
             if (fine && (sign == '<' || sign == '>' || sign == '=')) {
                 scanner.step();
                 fine = readSum(depth);
-                formula.write(Formula.DEED + sign);
+                formula.write(Formula.SIGN + sign);
             }
             return fine;
         }
@@ -786,7 +788,7 @@ public final class WeatherWages {
                 int sign = scanner.sort;
                 scanner.step();
                 fine = readTerm(depth);
-                formula.write(Formula.DEED + sign);
+                formula.write(Formula.SIGN + sign);
             }
             return fine;
         }
@@ -797,7 +799,7 @@ public final class WeatherWages {
                 int sign = scanner.sort;
                 scanner.step();
                 fine = readUnit(depth);
-                formula.write(Formula.DEED + sign);
+                formula.write(Formula.SIGN + sign);
             }
             return fine;
         }
@@ -961,15 +963,9 @@ public final class WeatherWages {
             return sum;
         }
 
-        /** How many of n hours that are spent over one plot come over another one, or the same. */
+        /** How many of n hours that are spent over a plot come over it, or over a neighbour's. */
         int reach(int from, int to, int n) {
-            if (from == to) {
-                return n;
-            }
-            if (from - to != 1 && to - from != 1) {
-                return 0;
-            }
-            return n * (10 - cell(hedges, Math.min(from, to))) / 10;
+            return from == to ? n : n * (10 - cell(hedges, Math.min(from, to))) / 10;
         }
 
         /** 0 if no rate tells it. */

@@ -11,9 +11,12 @@ public final class ActsTest {
         week();
         loose();
         looseWithoutKinds();
+        looseWithOneKind();
+        weeksAtMost();
         undo();
         redo();
         forty();
+        fortyForgotten();
         Due.end();
     }
 
@@ -110,6 +113,9 @@ public final class ActsTest {
         Due.is("purse(0, 0)", x.purse(0, 0), 1);
         Due.is("change(0, 1, 2)", x.change(0, 1, 2), 1);
         Due.is("purse(0, 1)", x.purse(0, 1), 76);
+        WeatherWages all = Mills.of("kind a;kind b;man m crop 1;purse m a 3;rate a 3 for b 9;");
+        Due.is("change(0, 0, 1) of all", all.change(0, 0, 1), 9);
+        Due.is("purse(0, 0) of all", all.purse(0, 0), 0);
         Due.is("about(7)", x.about(7), 3);
         WeatherWages y = Mills.of("kind a;kind b;man m crop 1;purse m a 50;purse m b 60;rate a 1 for b 9;");
         for (int n = 1; n <= 4; n++) {
@@ -169,6 +175,45 @@ public final class ActsTest {
         Due.is("week()", x.week(), 6);
         Due.is("about(5)", x.about(5), ((999 * 137 + 71) % 1000 * 137 + 71) % 1000);
         Due.is("man(1, 0)", x.man(1, 0), 3);
+    }
+
+    private static void looseWithOneKind() {
+        WeatherWages x = Mills.of("kind a;man l crop 0 loose;purse l a 2;draw 8;");
+        Due.is("week() 1", x.week(), 1);
+        Due.is("week() 2", x.week(), 1);
+        Due.is("week() 3", x.week(), 0);
+        Due.is("purse(0, 0)", x.purse(0, 0), 0);
+    }
+
+    /** More calls than are promised, but told. */
+    private static void weeksAtMost() {
+        WeatherWages x = Mills.of("man l crop 0 loose;grow 1;");
+        for (int n = 1; n <= 999; n++) {
+            Due.is("week()", x.week(), 1);
+        }
+        int seed = x.about(5);
+        Due.is("week() behind 999", x.week(), -1000000);
+        Due.is("about(4)", x.about(4), 999);
+        Due.is("about(5)", x.about(5), seed);
+        x.undo();
+        Due.is("about(4)", x.about(4), 998);
+        Due.is("week()", x.week(), 1);
+    }
+
+    /** A ring of acts that has gone round is begun anew. */
+    private static void fortyForgotten() {
+        WeatherWages x = Mills.of("kind a;man m crop 0;man n crop 0;purse m a 60;");
+        for (int n = 0; n < 47; n++) {
+            x.give(0, 1, 0, 1);
+        }
+        x.image(0);
+        x.back(0);
+        x.give(0, 1, 0, 1);
+        Due.is("undo()", x.undo(), true);
+        Due.is("purse(0, 0)", x.purse(0, 0), 13);
+        Due.is("undo()", x.undo(), false);
+        Due.is("redo()", x.redo(), true);
+        Due.is("purse(0, 0)", x.purse(0, 0), 12);
     }
 
     private static void undo() {

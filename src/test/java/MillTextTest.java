@@ -2,6 +2,10 @@
 public final class MillTextTest {
     private static final String[] RESERVED = {"kind", "man", "crop", "loose", "purse", "pay", "hedge", "rate",
         "for", "book", "grow", "hours", "draw", "or", "and", "not", "first", "second", "third", "week", "plot"};
+    private static final String FULL = "kind a ; kind b ; kind c ; man m crop 1 loose ; man n crop 2 ; man o crop 3 loose ; "
+        + "man p crop 4 ; man q crop 5 loose ; purse m a 6 ; purse n b 7 ; purse q c 8 ; pay m a 9 ; pay n b 1 ; "
+        + "pay q c 2 ; hedge m 3 ; hedge n 4 ; hedge q 5 ; rate a 1 for b 2 ; rate b 3 for a 4 ; rate c 5 for b 6 ; "
+        + "book 1 ; book 2 ; book 3 ; book 4 ; book 5 ; hours 7 ; draw 8 ; ";
     private static final String TWO = "kind a;kind b;man m crop 1;man n crop 2;";
 
     public static void main(String[] args) {
@@ -15,8 +19,12 @@ public final class MillTextTest {
         firstByPlace();
         units();
         depths();
+        prefixes();
+        words();
+        names();
         afterFault();
         afterMill();
+        afterFullMill();
         Due.end();
     }
 
@@ -208,6 +216,46 @@ public final class MillTextTest {
         told("grow ((((((not 1)))))) and not (((((( 2 ))))));", 0);
     }
 
+    /** A text that stops within a line has its fault at the end. */
+    private static void prefixes() {
+        String[] tokens = (FULL + "grow not ( first + 2 ) * third < crop and not week or plot % 4 ;").split(" ");
+        StringBuilder text = new StringBuilder();
+        for (String token : tokens) {
+            text.append(token).append(' ');
+            if (token.equals(";")) {
+                Due.is("fault(0) of " + text, Mills.of(text.toString()).fault(0), 0);
+            } else {
+                fault(text.toString(), 2, text.length());
+                fault(text.substring(0, text.length() - 1), 2, text.length() - 1);
+            }
+        }
+    }
+
+    /** Each letter of a word counts. */
+    private static void words() {
+        for (String word : RESERVED) {
+            for (int i = 0; i < word.length(); i++) {
+                String other = word.substring(0, i) + "z" + word.substring(i + 1);
+                told("kind " + other + ";", 0);
+                fault(other + " a;", 2, 0);
+            }
+            told("kind " + word + "z;", 0);
+            told("man " + word.substring(0, word.length() - 1) + " crop 1;", 1);
+        }
+    }
+
+    private static void names() {
+        told("kind ab;kind ba;kind b;", 0);
+        told("kind a;kind aa;kind aaaaaaaa;", 0);
+        told("kind az;kind ba;kind bb;", 0);
+        told("kind zzzzzzzz;kind zzzzzzzy;kind yzzzzzzz;", 0);
+        fault("kind zzzzzzzz;kind zzzzzzzz;", 3, 19);
+        WeatherWages x = Mills.of("kind ab;kind ba;man ba crop 1;man ab crop 2;purse ba ab 5;purse ab ba 6;");
+        Due.is("purse(0, 0)", x.purse(0, 0), 5);
+        Due.is("purse(1, 1)", x.purse(1, 1), 6);
+        Due.is("purse(0, 1)", x.purse(0, 1), 0);
+    }
+
     private static void afterFault() {
         WeatherWages x = Mills.of("kind a;man m crop 5;purse m a 9;book 3;grow 7;draw 4;");
         x.week();
@@ -258,5 +306,49 @@ public final class MillTextTest {
         Due.is("mill() of nothing", x.mill(), 0);
         Due.is("about(0)", x.about(0), 0);
         Due.is("about(5)", x.about(5), 0);
+    }
+
+    /** What was told of a mill is not told of the next one. */
+    private static void afterFullMill() {
+        WeatherWages x = Mills.of(FULL + "grow first;");
+        for (int box = 0; box < 3; box++) {
+            x.image(box);
+        }
+        for (int n = 0; n < 45; n++) {
+            x.week();
+        }
+        Due.is("mill() again", Mills.tell(x, FULL + "grow first;"), 5);
+        for (int box = 0; box < 3; box++) {
+            Due.is("back(" + box + ")", x.back(box), -1);
+        }
+        Due.is("about(3)", x.about(3), 3);
+        x.spend(0, 0, 2);
+        x.week();
+        x.undo();
+        Due.is("man(0, 1)", x.man(0, 1), 2);
+        x.undo();
+        Due.is("purse(0, 0)", x.purse(0, 0), 6);
+        Due.is("purse(2, 0)", x.purse(2, 0), 0);
+        Due.is("undo()", x.undo(), false);
+        Mills.tell(x, "?");
+        Due.is("mill() of names", Mills.tell(x, "kind a;kind b;kind c;man m crop 1;man n crop 1;man o crop 1;"
+            + "man p crop 1;man q crop 1;"), 5);
+        int[] due = {5, 3, 0, 0, 0, 0, 6, 0, 0, 0, 0, 0, 0, 0};
+        for (int what = 0; what < due.length; what++) {
+            Due.is("about(" + what + ")", x.about(what), due[what]);
+        }
+        for (int man = 0; man < 5; man++) {
+            int[] of = {1, 0, 0, 0, 0, 10, 0};
+            for (int what = 0; what < of.length; what++) {
+                Due.is("man(" + man + ", " + what + ")", x.man(man, what), of[what]);
+            }
+        }
+        Due.is("gain(0)", x.gain(0), -1);
+        x = Mills.of("kind a;kind b;kind c;man m crop 1;man n crop 2;man o crop 3;man p crop 4;man q crop 5;"
+            + "purse q c 9;purse q a 2;purse m a 3;");
+        Mills.tell(x, "kind a;kind b;kind c;man m crop 6;man n crop 7;man o crop 8;man p crop 9;man q crop 10;");
+        Due.is("all(2, 0)", x.all(2, 0), 0);
+        Due.is("all(0, 0)", x.all(0, 0), 0);
+        Due.is("man(4, 0)", x.man(4, 0), 10);
     }
 }

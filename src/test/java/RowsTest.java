@@ -17,6 +17,7 @@ public final class RowsTest {
         restByNow();
         restOfManyRounds();
         nothingIsDone();
+        oneBehindTheOther();
         lies();
         Due.end();
     }
@@ -54,6 +55,10 @@ public final class RowsTest {
         WeatherWages none = Mills.of(purses + "grow 0 - first - second;");
         Due.is("best(0, 0), none", none.best(0, 0), 0);
         Due.lie("none", none, 0, 0, 0);
+        WeatherWages last = Mills.of("kind a;kind b;kind c;man m crop 1;purse m a 8;purse m b 8;purse m c 8;hours 8;"
+            + "grow first * 2 + second;");
+        Due.is("best(0, 0), the last row", last.best(0, 0), 16);
+        Due.lie("the last row", last, 8, 0, 0);
         WeatherWages bound = Mills.of(purses + "hours 8;grow first * 7 + second;");
         Due.is("best(0, 0), bound", bound.best(0, 0), 20);
         Due.is("best(0, 1), bound", bound.best(0, 1), 3);
@@ -278,6 +283,29 @@ public final class RowsTest {
         Due.is("left(0)", x.left(0), 6);
         Due.is("about(5)", x.about(5), 5);
         Due.is("about(7)", x.about(7), 0);
+    }
+
+    /** What was looked for ahead leaves nothing behind. */
+    private static void oneBehindTheOther() {
+        WeatherWages x = Mills.of("kind a;man m crop 10;man n crop 10;purse m a 4;purse n a 4;hedge m 0;hours 4;"
+            + "grow 9 - (first - 4) * (first - 4);");
+        for (int round = 0; round < 2; round++) {
+            x.rest();
+            Due.lie("rest", x, 4, 0);
+            Due.is("best(1, 1)", x.best(1, 1), 4);
+            x.pool(0, 1);
+            Due.is("good(1, 1)", x.good(1, 1), 4);
+            x.rest();
+            Due.is("needs(1, 9)", x.needs(1, 9), 4);
+            x.rest();
+            Due.is("leaks(1)", x.leaks(1), 16);
+            Due.is("joint(1, 0)", x.joint(1, 0), 0);
+            x.best(1, 1);
+            Due.is("pool(0, 1)", x.pool(0, 1), 18);
+            Due.lie("pool", x, 1, 3);
+            x.rest();
+            Due.is("thrive(1, 1)", x.thrive(1, 1), 19);
+        }
     }
 
     private static void lies() {

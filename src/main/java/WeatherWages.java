@@ -589,18 +589,12 @@ public final class WeatherWages {
 
         /** A word that the language has for itself is no name. */
         boolean isName() {
-            return sort == WORD && !saysOfLines() && !saysOfFormulas();
-        }
-
-        private boolean saysOfLines() {
-            return says("kind") || says("man") || says("crop") || says("loose") || says("purse")
-                || says("pay") || says("hedge") || says("rate") || says("for") || says("book")
-                || says("grow") || says("hours") || says("draw");
-        }
-
-        private boolean saysOfFormulas() {
-            return says("or") || says("and") || says("not") || says("first") || says("second")
-                || says("third") || says("week") || says("plot");
+            boolean ofLines = says("kind") || says("man") || says("crop") || says("loose")
+                || says("purse") || says("pay") || says("hedge") || says("rate") || says("for")
+                || says("book") || says("grow") || says("hours") || says("draw");
+            boolean ofFormulas = says("or") || says("and") || says("not") || says("first")
+                || says("second") || says("third") || says("week") || says("plot");
+            return sort == WORD && !ofLines && !ofFormulas;
         }
 
         /** Always false, so that a reader can hand it on. At one place the least fault counts. */
@@ -682,7 +676,7 @@ public final class WeatherWages {
 
         int worth(int[] leaves) {
             if (length == 0) {
-                return sumOfKinds(leaves);
+                return cell(leaves, FIRST) + cell(leaves, FIRST + 1) + cell(leaves, FIRST + 2);
             }
             int top = 0;
             for (int i = 0; i < length && i < code.length; i++) {
@@ -698,14 +692,6 @@ public final class WeatherWages {
                 }
             }
             return cell(stack, 0);
-        }
-
-        private static int sumOfKinds(int[] leaves) {
-            int sum = 0;
-            for (int kind = 0; kind < KINDS; kind++) {
-                sum += cell(leaves, FIRST + kind);
-            }
-            return sum;
         }
 
         private static int joined(int sign, int a, int b) {
@@ -725,7 +711,7 @@ public final class WeatherWages {
         }
     }
 
-    /** Reads e of the grammar. Each function answers false when a fault was found. */
+    /** Reads e of the grammar (readEither(0)). Each function is false when a fault was found. */
     private static final class FormulaReader {
         private static final int UNITS_MOST = 30;
         private static final int DEPTH_MOST = 7;
@@ -736,10 +722,6 @@ public final class WeatherWages {
         FormulaReader(Scanner scanner, Formula formula) {
             this.scanner = scanner;
             this.formula = formula;
-        }
-
-        boolean readFormula() {
-            return readEither(0);
         }
 
         private boolean readEither(int depth) {
@@ -823,10 +805,17 @@ public final class WeatherWages {
             }
             formula.units++;
             scanner.step();
-            if (bracket) {
-                return readEither(depth + 1) && scanner.takesSign(')');
+            if (!bracket) {
+                formula.write(leaf);
+                return true;
             }
-            formula.write(leaf);
+            if (!readEither(depth + 1)) {
+                return false;
+            }
+            if (scanner.sort != ')') {
+                return scanner.refuse(Scanner.CANT_STAND);
+            }
+            scanner.step();
             return true;
         }
 
@@ -1208,7 +1197,7 @@ public final class WeatherWages {
                 return false;
             }
             growTold = true;
-            return formulas.readFormula() && scanner.takesSign(';');
+            return formulas.readEither(0) && scanner.takesSign(';');
         }
 
         private boolean readHoursOfWeek() {

@@ -62,6 +62,10 @@ public final class AheadTest {
         Due.is("thrive(2, 1)", x.thrive(2, 1), -1);
         Due.is("thrive(-1, 1)", x.thrive(-1, 1), -1);
         Due.is("purse(0, 0)", x.purse(0, 0), 3);
+        WeatherWages y = Mills.of("kind a;kind b;kind c;man m crop 1;man n crop 1;purse n a 1;purse n b 2;purse n c 3;"
+            + "hours 4;grow first + second * 2 + third * 3;");
+        Due.is("thrive(1, 1)", y.thrive(1, 1), 12);
+        Due.is("thrive(1, 2)", y.thrive(1, 2), 15);
         x.best(1, 0);
         x.thrive(0, 2);
         Due.lie("thrive", x, 3);

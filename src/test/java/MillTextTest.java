@@ -122,6 +122,11 @@ public final class MillTextTest {
         fault("grow 1 < not 2;", 2, 9);
         fault("grow 1 and;", 2, 10);
         fault("grow or 1;", 2, 5);
+        fault("grow not and 1;", 2, 9);
+        fault("grow not < 1;", 2, 9);
+        fault("grow 1 + * 2;", 2, 9);
+        fault("grow (1 + ) + 1;", 2, 10);
+        fault("grow 1 and or 2;", 2, 11);
         fault("grow sun;", 2, 5);
         fault("grow hours;", 2, 5);
         for (String word : RESERVED) {

@@ -216,6 +216,9 @@ public final class RowsTest {
         Due.is("joint(-1, 0)", more.joint(-1, 0), NOWHERE);
         more.joint(0, 1);
         Due.lie("joint", more, 3);
+        WeatherWages apart = Mills.of(men + "purse m a 4;purse n a 4;hedge m 0;"
+            + "grow (plot = 0) * (0 - (first - 4) * (first - 4)) + (plot = 1) * first;");
+        Due.is("joint(0, 1), each for himself", apart.joint(0, 1), 12);
         WeatherWages order = Mills.of("kind a;man m crop 1;man n crop 1;purse m a 2;purse n a 2;hedge m 0;"
             + "grow (first = 1 + plot) * 6;");
         Due.is("joint(0, 1), the one first", order.joint(0, 1), 0);

@@ -1369,8 +1369,10 @@ public final class WeatherWages {
             for (int kind = 0; kind < KINDS; kind++) {
                 int hours = overAt(plot, kind);
                 for (int man = plot - 1; man <= plot + 1; man++) {
-                    if (mill.hasMan(man)) {
-                        hours += mill.reach(man, plot, cell(rows, man * KINDS + kind));
+                    int n = cell(rows, man * KINDS + kind);
+                    // most rows are empty, and so is that of a man that is none
+                    if (n > 0) {
+                        hours += mill.reach(man, plot, n);
                     }
                 }
                 put(leaves, Formula.FIRST + kind, hours);

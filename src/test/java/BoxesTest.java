@@ -1,10 +1,17 @@
 /** Promises 40 and 41: image and back. */
 public final class BoxesTest {
+    private static final int[] WILD = {Integer.MIN_VALUE, -2, -1, 3, 4, 99, Integer.MAX_VALUE};
+
     public static void main(String[] args) {
-        boxes();
         whatIsKept();
+        threeBoxes();
+        imageAnswers();
+        imageRefused();
+        asItWasKept();
         whatStays();
-        afterActs();
+        noActs();
+        backAnswers();
+        backRefused();
         Due.end();
     }
 
@@ -13,53 +20,114 @@ public final class BoxesTest {
             + "book 1;book 2;draw 9;grow first + 1;");
     }
 
-    private static void boxes() {
-        WeatherWages x = mill();
-        for (int box = -1; box <= 3; box++) {
-            Due.is("back(" + box + ") of nothing", x.back(box), -1);
+    private static String state(WeatherWages x) {
+        StringBuilder state = new StringBuilder();
+        for (int man = 0; man < x.about(0); man++) {
+            for (int what = 0; what < 7; what++) {
+                state.append(x.man(man, what)).append(' ');
+            }
+            for (int kind = 0; kind < x.about(1); kind++) {
+                state.append(x.purse(man, kind)).append(' ').append(x.over(man, kind)).append(' ');
+            }
         }
-        Due.is("image(-1)", x.image(-1), -1);
-        Due.is("image(3)", x.image(3), -1);
-        Due.is("image(max)", x.image(Integer.MAX_VALUE), -1);
-        Due.is("back(min)", x.back(Integer.MIN_VALUE), -1);
-        Due.is("image(0)", x.image(0), 0);
-        x.week();
-        Due.is("image(2)", x.image(2), 1);
-        x.week();
-        x.week();
-        Due.is("image(1)", x.image(1), 3);
-        Due.is("back(0)", x.back(0), 0);
-        Due.is("back(2)", x.back(2), 1);
-        Due.is("about(4)", x.about(4), 1);
-        Due.is("back(1)", x.back(1), 3);
-        Due.is("image(0) over another", x.image(0), 3);
-        Due.is("back(2)", x.back(2), 1);
-        Due.is("back(0)", x.back(0), 3);
-        Due.is("back(3)", x.back(3), -1);
+        return state.append(x.about(4)).append(' ').append(x.about(5)).toString();
     }
 
     private static void whatIsKept() {
+        Due.says("40", "Purses, crops, what is OVER, SPENT, the week, the SEED are kept");
         WeatherWages x = mill();
         x.week();
         x.spend(0, 0, 2);
         x.spend(1, 1, 3);
+        String kept = state(x);
         int seed = x.about(5);
         x.image(1);
+        Due.holds("nothing is done by image()", state(x).equals(kept));
         x.week();
         x.week();
         x.give(1, 0, 1, 2);
-        Due.is("back(1)", x.back(1), 1);
-        Due.is("about(5)", x.about(5), seed);
-        Due.is("man(0, 0)", x.man(0, 0), 12);
-        Due.is("man(0, 1)", x.man(0, 1), 2);
-        Due.is("man(1, 1)", x.man(1, 1), 3);
-        Due.is("purse(1, 1)", x.purse(1, 1), 6);
-        Due.is("over(1, 0)", x.over(1, 0), 2);
-        Due.is("over(0, 1)", x.over(0, 1), 3);
-        Due.is("about(4)", x.about(4), 1);
         x.spend(0, 0, 1);
-        Due.is("back(1) again", x.back(1), 1);
-        Due.is("man(0, 1) again", x.man(0, 1), 2);
+        Due.is("back(1)", x.back(1), 1);
+        Due.is("the seed", x.about(5), seed);
+        Due.is("the week", x.about(4), 1);
+        Due.is("a crop", x.man(0, 0), 12);
+        Due.is("SPENT", x.man(0, 1), 2);
+        Due.is("SPENT", x.man(1, 1), 3);
+        Due.is("a purse", x.purse(1, 1), 6);
+        Due.is("what is over", x.over(1, 0), 2);
+        Due.is("what is over", x.over(0, 1), 3);
+        Due.holds("all is as it was", state(x).equals(kept));
+    }
+
+    private static void threeBoxes() {
+        Due.says("40", "in a BOX 0 .. 2:");
+        WeatherWages x = mill();
+        String[] kept = new String[3];
+        for (int box = 0; box < 3; box++) {
+            x.spend(0, 0, 1);
+            x.give(1, 0, 1, 1);
+            kept[box] = state(x);
+            Due.is("image(" + box + ")", x.image(box), box);
+            x.week();
+        }
+        for (int box : new int[] {1, 0, 2, 2, 0, 1}) {
+            Due.is("back(" + box + ")", x.back(box), box);
+            Due.holds("all is as it was in box " + box, state(x).equals(kept[box]));
+            x.week();
+        }
+        x.back(2);
+        Due.is("image(0) over another", x.image(0), 2);
+        x.back(1);
+        x.back(0);
+        Due.holds("the later one is kept", state(x).equals(kept[2]));
+    }
+
+    private static void imageAnswers() {
+        Due.says("40", "the week;");
+        WeatherWages x = new WeatherWages();
+        Due.is("image(2) of nothing told", x.image(2), 0);
+        for (int week = 1; week < 10; week++) {
+            x.week();
+            Due.is("image(0)", x.image(0), week);
+        }
+        x.undo();
+        Due.is("image(0) behind undo()", x.image(0), 8);
+    }
+
+    private static void imageRefused() {
+        Due.says("40", "NONE if there is none such.");
+        WeatherWages x = mill();
+        x.week();
+        for (int box : WILD) {
+            Due.is("image(" + box + ")", x.image(box), -1);
+            Due.is("back(" + box + ")", x.back(box), -1);
+        }
+        for (int box = 0; box < 3; box++) {
+            Due.is("back(" + box + ") of nothing", x.back(box), -1);
+        }
+    }
+
+    private static void asItWasKept() {
+        Due.says("41", "All is as it was kept");
+        WeatherWages x = mill();
+        x.spend(0, 0, 2);
+        x.image(0);
+        String kept = state(x);
+        for (int times = 0; times < 3; times++) {
+            x.spend(0, 0, 1);
+            x.week();
+            x.spend(1, 1, 4);
+            x.back(0);
+            Due.holds("all is as it was", state(x).equals(kept));
+        }
+        Due.is("week()", x.week(), 8);
+        Due.is("undo()", x.undo(), true);
+        Due.holds("a week is undone to what was kept", state(x).equals(kept));
+        WeatherWages fresh = new WeatherWages();
+        fresh.image(1);
+        fresh.week();
+        Due.is("back(1) of nothing told", fresh.back(1), 0);
+        Due.is("about(4)", fresh.about(4), 0);
     }
 
     private static void whatStays() {
@@ -73,27 +141,64 @@ public final class BoxesTest {
         Due.is("about(9)", x.about(9), 1);
         Due.is("about(10)", x.about(10), 5);
         Due.is("about(11)", x.about(11), 4);
+        Due.is("orders(5)", x.orders(5), 1);
         Due.lie("back", x, 6, 0);
     }
 
-    private static void afterActs() {
+    private static void noActs() {
+        Due.says("41", "(no ACTS are kept then):");
         WeatherWages x = mill();
         x.week();
         x.week();
         x.undo();
         Due.is("image(0)", x.image(0), 1);
-        Due.is("redo() behind an image", x.redo(), true);
+        Due.is("about(7) behind image()", x.about(7), 1);
+        Due.is("redo() behind image()", x.redo(), true);
         x.undo();
-        Due.is("back(1), doing nothing", x.back(1), -1);
-        Due.is("about(7)", x.about(7), 1);
         Due.is("about(8)", x.about(8), 1);
         Due.is("back(0)", x.back(0), 1);
         Due.is("about(7)", x.about(7), 0);
         Due.is("about(8)", x.about(8), 0);
         Due.is("undo()", x.undo(), false);
         Due.is("redo()", x.redo(), false);
+        Due.is("about(4)", x.about(4), 1);
         x.week();
+        Due.is("about(7)", x.about(7), 1);
         Due.is("undo()", x.undo(), true);
         Due.is("about(4)", x.about(4), 1);
+        Due.is("undo()", x.undo(), false);
+    }
+
+    private static void backAnswers() {
+        Due.says("41", "the week;");
+        WeatherWages x = mill();
+        x.week();
+        x.image(0);
+        x.week();
+        x.week();
+        x.image(1);
+        x.week();
+        Due.is("back(0)", x.back(0), 1);
+        Due.is("back(1)", x.back(1), 3);
+    }
+
+    private static void backRefused() {
+        Due.says("41", "NONE, doing nothing, if nothing was.");
+        WeatherWages x = mill();
+        x.image(1);
+        x.week();
+        x.spend(0, 0, 1);
+        x.undo();
+        String state = state(x);
+        for (int box : WILD) {
+            Due.is("back(" + box + ")", x.back(box), -1);
+        }
+        Due.is("back(0)", x.back(0), -1);
+        Due.is("back(2)", x.back(2), -1);
+        Due.holds("nothing is done", state(x).equals(state));
+        Due.is("about(7)", x.about(7), 1);
+        Due.is("about(8)", x.about(8), 1);
+        Due.is("redo()", x.redo(), true);
+        Due.is("back(0) of a new object", new WeatherWages().back(0), -1);
     }
 }

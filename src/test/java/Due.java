@@ -2,8 +2,30 @@
 final class Due {
     private static int right = 0;
     private static int wrong = 0;
+    private static int rightAhead = 0;
+    private static int sentences = 0;
+    private static String sentence = "";
 
     private Due() {
+    }
+
+    /**
+     * What is asked from here on is a test of this sentence of the document: where says "1" to
+     * "42" for a promise, "T1" to "T4" for a section of the terms. DocumentTest reads the calls
+     * of this method off the sources, so both stand there as written out texts.
+     */
+    static void says(String where, String words) {
+        endSentence();
+        sentences++;
+        sentence = where + ": " + words;
+    }
+
+    private static void endSentence() {
+        if (sentences > 0 && right + wrong == rightAhead) {
+            wrong++;
+            System.out.println("nothing is asked of [" + sentence + "]");
+        }
+        rightAhead = right + wrong;
     }
 
     static void is(String call, long got, long want) {
@@ -13,7 +35,7 @@ final class Due {
         }
         wrong++;
         if (wrong <= 50) {
-            System.out.println(call + " answered " + got + ", due is " + want);
+            System.out.println(call + " answered " + got + ", due is " + want + " [" + sentence + "]");
         }
     }
 
@@ -36,7 +58,8 @@ final class Due {
     }
 
     static void end() {
-        System.out.println(right + " right, " + wrong + " wrong");
+        endSentence();
+        System.out.println((sentences == 0 ? "" : sentences + " sentences, ") + right + " right, " + wrong + " wrong");
         if (wrong != 0 || right == 0) {
             System.exit(1);
         }

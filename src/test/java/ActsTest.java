@@ -129,6 +129,43 @@ public final class ActsTest {
         Due.is("spend(2, 0, 1) of no such man", few.spend(2, 0, 1), -1);
         Due.is("about(7)", few.about(7), 0);
         Due.is("spend(0, 0, 1) of nothing told", new WeatherWages().spend(0, 0, 1), -1);
+        behindTheLast();
+    }
+
+    /** There is no man behind the last one, no kind behind the last one, whatever lies there. */
+    private static void behindTheLast() {
+        String all = "purse m a 9;purse m b 9;purse m c 9;purse q a 9;purse q b 9;purse q c 9;rate a 1 for b 1;"
+            + "rate b 1 for c 1;rate c 1 for a 1;rate a 1 for c 1;hedge m 0;";
+        WeatherWages x = Mills.of(FIVE + all);
+        for (int kind = 0; kind < 3; kind++) {
+            x.spend(0, kind, 2);
+            x.spend(4, kind, 2);
+        }
+        for (int man = -6; man <= 20; man++) {
+            for (int kind = -3; kind <= 6; kind++) {
+                if (man < 0 || man > 4 || kind < 0 || kind > 2) {
+                    String pair = "(" + man + ", " + kind + ")";
+                    Due.is("spend" + pair, x.spend(man, kind, 1), -1);
+                }
+            }
+        }
+        x = Mills.of(FIVE + all);
+        x.spend(0, 0, 3);
+        for (int man = -6; man <= 20; man++) {
+            boolean there = man >= 0 && man <= 4;
+            Due.is("give(" + man + ")", there || x.give(man, 1, 0, 1) == -1, true);
+            Due.is("give to " + man, there || x.give(0, man, 0, 1) == -1, true);
+            Due.is("change(" + man + ", 0, 1)", there || x.change(man, 0, 1) == -1, true);
+            Due.is("change(" + man + ", 2, 0)", there || x.change(man, 2, 0) == -1, true);
+        }
+        for (int kind = -6; kind <= 20; kind++) {
+            boolean there = kind >= 0 && kind <= 2;
+            Due.is("give(0, 1, " + kind + ", 1)", there || x.give(0, 1, kind, 1) == -1, true);
+            Due.is("change(0, " + kind + ", 1)", there || x.change(0, kind, 1) == -1, true);
+            Due.is("change(0, 0, " + kind + ")", there || x.change(0, 0, kind) == -1, true);
+            Due.is("change(4, 1, " + kind + ")", there || x.change(4, 1, kind) == -1, true);
+        }
+        Due.is("about(7)", x.about(7), 1);
     }
 
     private static void spendAct() {

@@ -20,29 +20,16 @@ public final class BoxesTest {
             + "book 1;book 2;draw 9;grow first + 1;");
     }
 
-    private static String state(WeatherWages x) {
-        StringBuilder state = new StringBuilder();
-        for (int man = 0; man < x.about(0); man++) {
-            for (int what = 0; what < 7; what++) {
-                state.append(x.man(man, what)).append(' ');
-            }
-            for (int kind = 0; kind < x.about(1); kind++) {
-                state.append(x.purse(man, kind)).append(' ').append(x.over(man, kind)).append(' ');
-            }
-        }
-        return state.append(x.about(4)).append(' ').append(x.about(5)).toString();
-    }
-
     private static void whatIsKept() {
         Due.says("40", "Purses, crops, what is OVER, SPENT, the week, the SEED are kept");
         WeatherWages x = mill();
         x.week();
         x.spend(0, 0, 2);
         x.spend(1, 1, 3);
-        String kept = state(x);
+        String kept = Mills.state(x);
         int seed = x.about(5);
         x.image(1);
-        Due.holds("nothing is done by image()", state(x).equals(kept));
+        Due.holds("nothing is done by image()", Mills.state(x).equals(kept));
         x.week();
         x.week();
         x.give(1, 0, 1, 2);
@@ -56,7 +43,7 @@ public final class BoxesTest {
         Due.is("a purse", x.purse(1, 1), 6);
         Due.is("what is over", x.over(1, 0), 2);
         Due.is("what is over", x.over(0, 1), 3);
-        Due.holds("all is as it was", state(x).equals(kept));
+        Due.holds("all is as it was", Mills.state(x).equals(kept));
     }
 
     private static void threeBoxes() {
@@ -66,20 +53,20 @@ public final class BoxesTest {
         for (int box = 0; box < 3; box++) {
             x.spend(0, 0, 1);
             x.give(1, 0, 1, 1);
-            kept[box] = state(x);
+            kept[box] = Mills.state(x);
             Due.is("image(" + box + ")", x.image(box), box);
             x.week();
         }
         for (int box : new int[] {1, 0, 2, 2, 0, 1}) {
             Due.is("back(" + box + ")", x.back(box), box);
-            Due.holds("all is as it was in box " + box, state(x).equals(kept[box]));
+            Due.holds("all is as it was in box " + box, Mills.state(x).equals(kept[box]));
             x.week();
         }
         x.back(2);
         Due.is("image(0) over another", x.image(0), 2);
         x.back(1);
         x.back(0);
-        Due.holds("the later one is kept", state(x).equals(kept[2]));
+        Due.holds("the later one is kept", Mills.state(x).equals(kept[2]));
     }
 
     private static void imageAnswers() {
@@ -112,17 +99,17 @@ public final class BoxesTest {
         WeatherWages x = mill();
         x.spend(0, 0, 2);
         x.image(0);
-        String kept = state(x);
+        String kept = Mills.state(x);
         for (int times = 0; times < 3; times++) {
             x.spend(0, 0, 1);
             x.week();
             x.spend(1, 1, 4);
             x.back(0);
-            Due.holds("all is as it was", state(x).equals(kept));
+            Due.holds("all is as it was", Mills.state(x).equals(kept));
         }
         Due.is("week()", x.week(), 8);
         Due.is("undo()", x.undo(), true);
-        Due.holds("a week is undone to what was kept", state(x).equals(kept));
+        Due.holds("a week is undone to what was kept", Mills.state(x).equals(kept));
         WeatherWages fresh = new WeatherWages();
         fresh.image(1);
         fresh.week();
@@ -189,13 +176,13 @@ public final class BoxesTest {
         x.week();
         x.spend(0, 0, 1);
         x.undo();
-        String state = state(x);
+        String state = Mills.state(x);
         for (int box : WILD) {
             Due.is("back(" + box + ")", x.back(box), -1);
         }
         Due.is("back(0)", x.back(0), -1);
         Due.is("back(2)", x.back(2), -1);
-        Due.holds("nothing is done", state(x).equals(state));
+        Due.holds("nothing is done", Mills.state(x).equals(state));
         Due.is("about(7)", x.about(7), 1);
         Due.is("about(8)", x.about(8), 1);
         Due.is("redo()", x.redo(), true);

@@ -331,7 +331,6 @@ public final class GrammarTest {
         Texts.told("man m crop 7 loose;", 1);
         Texts.told("man m crop 7\nloose;", 1);
         Texts.told("grow 1+first;", 0);
-        Texts.fault(1, "man m crop 7@A;");
         Texts.fault(1, "man m crop 7@_;");
     }
 

@@ -192,5 +192,10 @@ public final class LimitsTest {
         Texts.grows("6 - " + brackets(6, "5 - (4 - 1)"), 4);
         Texts.grows("(3 - (3 - (3 - (3 - (3 - (3 - (3 - 1)))))))", 2);
         Texts.grows(Texts.times(7, "not ") + "1", 0);
+        String deep = Texts.times(7, "not ") + "0";
+        Texts.grows(deep + Texts.times(29, " and " + deep), 1);
+        Texts.grows(deep + Texts.times(28, " and " + deep) + " and " + Texts.times(7, "not ") + "3", 0);
+        Texts.grows(Texts.times(29, "0 or ") + deep, 1);
+        Texts.grows("1" + Texts.times(22, "-1") + "+" + brackets(6, "3"), -18);
     }
 }

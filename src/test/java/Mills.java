@@ -30,4 +30,20 @@ final class Mills {
         }
         return x;
     }
+
+    /** All that acts change and what is told of each man, by some 10 calls for each of them. */
+    static String state(WeatherWages x) {
+        StringBuilder state = new StringBuilder();
+        int men = x.about(0);
+        int kinds = x.about(1);
+        for (int man = 0; man < men; man++) {
+            for (int what = 0; what < 7; what++) {
+                state.append(x.man(man, what)).append(' ');
+            }
+            for (int kind = 0; kind < kinds; kind++) {
+                state.append(x.purse(man, kind)).append(' ').append(x.over(man, kind)).append(' ');
+            }
+        }
+        return state.append(x.about(4)).append(' ').append(x.about(5)).toString();
+    }
 }

@@ -112,6 +112,17 @@ public final class PoolTest {
         WeatherWages none = Mills.of(TWO + "purse m a 9;purse n b 9;grow 0 - first;");
         Due.is("pool(0, 1), none", none.pool(0, 1), 0);
         Due.lie("pool(0, 1), none", none, 0, 0, 0, 0);
+        WeatherWages other = Mills.of(TWO + "purse n a 3;purse n b 3;grow plot * 5 * (first > 0 or second > 1);");
+        Due.is("pool(0, 1), the other one's fewest", other.pool(0, 1), 5);
+        Due.lie("pool(0, 1), the other one's fewest", other, 0, 0, 1, 0);
+        Due.is("pool(1, 0), the one's fewest", other.pool(1, 0), 5);
+        Due.lie("pool(1, 0), the one's fewest", other, 1, 0, 0, 0);
+        WeatherWages both = Mills.of("kind a;man m crop 1;man n crop 1;purse m a 3;purse n a 3;hedge m 5;"
+            + "grow 5 * (first > 1 - plot);");
+        Due.is("pool(0, 1), two of one rather than three of both", both.pool(0, 1), 10);
+        Due.lie("pool(0, 1), two of one rather than three of both", both, 2, 0);
+        Due.is("pool(1, 0), two of one rather than three of both", both.pool(1, 0), 10);
+        Due.lie("pool(1, 0), two of one rather than three of both", both, 0, 2);
     }
 
     private static void first() {

@@ -8,15 +8,35 @@ import java.util.Deque;
 import java.util.IdentityHashMap;
 import java.util.Set;
 
-/** All calls of a run live in one room: calls make no objects, and one object stays small. */
+/** All calls of a run live in one room, nothing is thrown, and two runs answer the same. */
 public final class RoomTest {
-    private static final int WARM = 300;
+    private static final int CALLS = 512;
+    /** 600,000 objects of 16 bytes, 7.3 million fields and elements of 8. */
+    private static final long ROOM = 600_000L * 16 + 7_300_000L * 8;
+    private static final int[] WILD = {Integer.MIN_VALUE, -1000000, -1, 0, 1, 2, 3, 5, 8, 99, 1600, 1 << 30,
+        Integer.MAX_VALUE};
+    /** As much as can be told. */
+    private static final String FULL = full();
 
     public static void main(String[] args) throws IllegalAccessException {
         size(new WeatherWages());
-        callsMakeNothing();
+        runsFit();
         wildCalls();
+        sameAnswers();
         Due.end();
+    }
+
+    private static String full() {
+        StringBuilder text = new StringBuilder("kind a;kind b;kind c;hours 8;draw 7;"
+            + "book 1;book 2;book 3;book 4;book 5;rate a 1 for b 2;rate b 1 for a 3;rate b 1 for c 4;rate c 5 for a 5;");
+        for (int man = 0; man < 5; man++) {
+            char name = "mnopq".charAt(man);
+            text.append("man " + name + " crop 9 loose;hedge " + name + " 2;");
+            for (int kind = 0; kind < 3; kind++) {
+                text.append("purse " + name + " " + "abc".charAt(kind) + " 60;pay " + name + " " + "abc".charAt(kind) + " 9;");
+            }
+        }
+        return text + "grow first * 2 - second + third % (plot + 2)" + Texts.times(22, "+first") + " - 9;";
     }
 
     private static void size(WeatherWages x) throws IllegalAccessException {
@@ -43,8 +63,8 @@ public final class RoomTest {
                 }
             }
         }
-        Due.holds("one object is " + seen.size() + " objects", seen.size() <= 100);
-        Due.holds("one object is " + cells + " cells", cells <= 7000);
+        Due.holds("a new object is " + seen.size() + " objects", seen.size() <= 6000);
+        Due.holds("a new object is " + cells + " fields and elements", cells <= 73000);
     }
 
     private static long made() {
@@ -52,26 +72,28 @@ public final class RoomTest {
         return bean.getThreadAllocatedBytes(Thread.currentThread().getId());
     }
 
-    private static void callsMakeNothing() {
-        WeatherWages x = new WeatherWages();
-        for (int n = 0; n < WARM; n++) {
-            everyCall(x, n % 5, n % 3);
+    /** A call of each method again and again, on one object after another. */
+    private static void runsFit() {
+        long most = 0;
+        for (int n = 0; n < 20; n++) {
+            made();
+            long before = made();
+            WeatherWages x = new WeatherWages();
+            Mills.tell(x, FULL);
+            for (int calls = 100; calls < CALLS - 50; calls += 50) {
+                everyCall(x, n % 5, n % 3);
+            }
+            most = Math.max(most, made() - before);
         }
-        made();
-        long before = made();
-        for (int n = 0; n < 1000; n++) {
-            everyCall(x, n % 5, n % 3);
-        }
-        long bytes = made() - before;
-        Due.holds("60,000 calls made " + bytes + " bytes", bytes < 20000);
+        Due.holds("one of each call again and again made " + most + " bytes", most <= ROOM);
     }
 
-    /** "kind a;man m crop 1;purse m a 9;book 3;" with blanks. */
     private static void everyCall(WeatherWages x, int a, int b) {
         x.feed(0x6b696e64, 0x20613b20, 0x6d616e20, 0x6d206372, 0x6f702031);
-        x.feed(0x3b707572, 0x7365206d, 0x20612039, 0x3b626f6f, 0x6b20333b);
         x.end(40);
-        x.mill();
+        if (a % 4 == 1) {
+            x.mill();
+        }
         acts(x, a, b);
         x.best(a, b);
         x.leaks(a);
@@ -116,29 +138,46 @@ public final class RoomTest {
         x.back(b);
     }
 
-    /** Nothing is thrown, whatever the arguments, in whatever state. */
+    /** Nothing is thrown, whatever the arguments, whether a mill is told or not. */
     private static void wildCalls() {
-        int[] wild = {Integer.MIN_VALUE, -1000000, -1, 0, 1, 2, 3, 5, 8, 99, 1600, 1 << 30, Integer.MAX_VALUE};
-        WeatherWages x = new WeatherWages();
         int calls = 0;
-        for (int a : wild) {
-            for (int b : wild) {
+        for (int a : WILD) {
+            for (int b : WILD) {
+                WeatherWages x = new WeatherWages();
+                everyCall(x, a, b);
+                Mills.tell(x, FULL);
+                everyCall(x, a, b);
                 x.feed(a, b, a, b, a);
                 x.end(b);
-                if (calls % 7 == 0) {
-                    x.mill();
-                }
-                everyCall(x, a, b);
-                for (int c : wild) {
+                for (int c : WILD) {
                     x.spend(a, b, c);
                     x.give(a, b, c, a);
                     x.change(a, b, c);
                     x.saves(a, b, c);
                     x.least(a, b, c > 0);
                 }
+                everyCall(x, b, a);
+                x.mill();
+                everyCall(x, a, b);
                 calls++;
             }
         }
-        Due.is("wild calls", calls, wild.length * wild.length);
+        Due.is("wild calls", calls, WILD.length * WILD.length);
+    }
+
+    /** The dearest call each time, and what it answers, twice. */
+    private static void sameAnswers() {
+        for (int man = 0; man < 5; man++) {
+            WeatherWages x = Mills.of(FULL);
+            WeatherWages y = Mills.of(FULL);
+            for (int n = 0; n < 20; n++) {
+                Due.is("thrive", x.thrive(man, 12), y.thrive(man, 12));
+                Due.is("pool", x.pool(man, (man + 1) % 5), y.pool(man, (man + 1) % 5));
+                Due.is("rest", x.rest(), y.rest());
+                Due.is("good", x.good(man, 0), y.good(man, 0));
+                Due.is("week", x.week(), y.week());
+                Due.is("state", x.man(man, 0), y.man(man, 0));
+            }
+        }
     }
 }

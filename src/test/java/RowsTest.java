@@ -53,22 +53,6 @@ public final class RowsTest {
         Due.is("best(0, 1) of a purse of 1", x.best(0, 1), 1);
     }
 
-    private static String state(WeatherWages x) {
-        StringBuilder state = new StringBuilder();
-        for (int man = 0; man < x.about(0); man++) {
-            for (int what = 0; what < 7; what++) {
-                state.append(x.man(man, what)).append(' ');
-            }
-            for (int kind = 0; kind < x.about(1); kind++) {
-                state.append(x.purse(man, kind)).append(' ').append(x.over(man, kind)).append(' ');
-            }
-        }
-        for (int what = 0; what < 13; what++) {
-            state.append(x.about(what)).append(' ');
-        }
-        return state.toString();
-    }
-
     private static void nothingIsDone() {
         Due.says("T3", "nothing is done.");
         WeatherWages x = Mills.of("kind a;kind b;man m crop 1 loose;man n crop 1;purse m a 9;purse n b 9;hedge m 2;"
@@ -76,10 +60,14 @@ public final class RowsTest {
         x.spend(0, 0, 1);
         x.spend(1, 1, 2);
         x.undo();
-        String state = state(x);
+        String state = Mills.state(x);
         int[] answers = {x.best(0, 0), x.good(1, 0), x.needs(0, 3), x.pool(0, 1), x.joint(1, 0), x.leaks(0), x.rest(),
             x.will(0, 9), x.thrive(0, 9), x.saves(0, 0, 50), x.richest(), x.gulf(), x.most(0), x.gain(0), x.lies(0)};
-        Due.holds("the state is as it was", state(x).equals(state));
+        Due.holds("the state is as it was", Mills.state(x).equals(state));
+        int[] due = {2, 2, 0, 2, 0, 5, 6, 1, 1, 0, 0, 0, 3};
+        for (int what = 0; what < due.length; what++) {
+            Due.is("about(" + what + ")", x.about(what), due[what]);
+        }
         int[] again = {x.best(0, 0), x.good(1, 0), x.needs(0, 3), x.pool(0, 1), x.joint(1, 0), x.leaks(0), x.rest(),
             x.will(0, 9), x.thrive(0, 9), x.saves(0, 0, 50), x.richest(), x.gulf(), x.most(0), x.gain(0), x.lies(0)};
         for (int i = 0; i < answers.length; i++) {

@@ -228,6 +228,13 @@ public final class SightsTest {
         Due.is("ask(0, 20)", x.ask(0, 20), 0);
         Due.is("ask(1, 9)", x.ask(1, 9), 2);
         Due.is("ask(1, 19)", x.ask(1, 19), 1);
+        int[] ends = {Integer.MIN_VALUE, Integer.MAX_VALUE};
+        for (int i = 0; i < 2; i++) {
+            Due.is("sure(0, " + ends[i] + ")", x.sure(0, ends[i]), -2);
+            Due.is("sure(1, " + ends[i] + ")", x.sure(1, ends[i]), i == 0 ? -2 : 1);
+            Due.is("ask(0, " + ends[i] + ")", x.ask(0, ends[i]), 0);
+            Due.is("ask(1, " + ends[i] + ")", x.ask(1, ends[i]), i == 0 ? 2 : 1);
+        }
         Due.is("about(10)", x.about(10), 20);
     }
 

@@ -18,20 +18,6 @@ public final class UndoTest {
         Due.end();
     }
 
-    /** All that acts change. */
-    private static String state(WeatherWages x) {
-        StringBuilder state = new StringBuilder();
-        for (int man = 0; man < x.about(0); man++) {
-            for (int what = 0; what < 7; what++) {
-                state.append(x.man(man, what)).append(' ');
-            }
-            for (int kind = 0; kind < x.about(1); kind++) {
-                state.append(x.purse(man, kind)).append(' ').append(x.over(man, kind)).append(' ');
-            }
-        }
-        return state.append(x.about(4)).append(' ').append(x.about(5)).toString();
-    }
-
     private static void act(WeatherWages x, int n) {
         switch (n) {
             case 0 -> x.spend(0, 0, 4);
@@ -45,39 +31,39 @@ public final class UndoTest {
     private static void latest() {
         Due.says("T2", "UNDO takes back the latest ACT that was not,");
         WeatherWages x = Mills.of(MILL);
-        String[] states = new String[6];
+        String[] states = new String[5];
         for (int n = 0; n < 5; n++) {
-            states[n] = state(x);
+            states[n] = Mills.state(x);
             act(x, n);
             Due.is("about(7)", x.about(7), n + 1);
         }
         for (int n = 4; n >= 0; n--) {
             Due.is("undo()", x.undo(), true);
-            Due.holds("state ahead of act " + n, state(x).equals(states[n]));
+            Due.holds("state ahead of act " + n, Mills.state(x).equals(states[n]));
             Due.is("about(7)", x.about(7), n);
             Due.is("about(8)", x.about(8), 5 - n);
         }
         x.redo();
         x.redo();
         Due.is("undo() behind redo()", x.undo(), true);
-        Due.holds("state ahead of act 1", state(x).equals(states[1]));
+        Due.holds("state ahead of act 1", Mills.state(x).equals(states[1]));
     }
 
     private static void again() {
         Due.says("T2", "REDO does that again which was taken back last");
-        WeatherWages x = Mills.of(MILL);
-        String[] states = new String[6];
-        for (int n = 0; n < 5; n++) {
-            act(x, n);
-            states[n] = state(x);
-        }
         for (int back = 1; back <= 5; back++) {
+            WeatherWages x = Mills.of(MILL);
+            String[] states = new String[5];
+            for (int n = 0; n < 5; n++) {
+                act(x, n);
+                states[n] = Mills.state(x);
+            }
             for (int n = 0; n < back; n++) {
                 x.undo();
             }
             for (int n = 5 - back; n < 5; n++) {
                 Due.is("redo()", x.redo(), true);
-                Due.holds("state behind act " + n, state(x).equals(states[n]));
+                Due.holds("state behind act " + n, Mills.state(x).equals(states[n]));
                 Due.is("about(7)", x.about(7), n + 1);
                 Due.is("about(8)", x.about(8), 4 - n);
             }
@@ -98,9 +84,9 @@ public final class UndoTest {
             act(x, n);
             Due.is("about(8) behind act " + n, x.about(8), 0);
             Due.is("about(7) behind act " + n, x.about(7), 2);
-            String state = state(x);
+            String state = Mills.state(x);
             Due.is("redo() behind act " + n, x.redo(), false);
-            Due.holds("nothing is done", state(x).equals(state));
+            Due.holds("nothing is done", Mills.state(x).equals(state));
             x.undo();
             Due.is("purse(0, 0)", x.purse(0, 0), 10);
             Due.is("about(8)", x.about(8), 1);
@@ -210,7 +196,7 @@ public final class UndoTest {
     }
 
     private static void undo() {
-        Due.says("16", "UNDO: truth;");
+        Due.says("16", "UNDO: true;");
         WeatherWages x = new WeatherWages();
         x.week();
         Due.is("undo() of an empty mill's week", x.undo(), true);
@@ -230,10 +216,10 @@ public final class UndoTest {
         Due.is("undo() of what was refused", x.undo(), false);
         x.week();
         x.undo();
-        String state = state(x);
+        String state = Mills.state(x);
         Due.is("undo() a second time", x.undo(), false);
         Due.is("undo() a third time", x.undo(), false);
-        Due.holds("nothing is done", state(x).equals(state));
+        Due.holds("nothing is done", Mills.state(x).equals(state));
         Due.is("about(8)", x.about(8), 1);
         Due.is("redo()", x.redo(), true);
         x.best(0, 0);
@@ -261,9 +247,9 @@ public final class UndoTest {
         Due.is("redo() ahead of undo()", x.redo(), false);
         x.undo();
         x.redo();
-        String state = state(x);
+        String state = Mills.state(x);
         Due.is("redo() a second time", x.redo(), false);
-        Due.holds("nothing is done", state(x).equals(state));
+        Due.holds("nothing is done", Mills.state(x).equals(state));
         Due.is("about(7)", x.about(7), 1);
     }
 }

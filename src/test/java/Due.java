@@ -1,12 +1,31 @@
 /** Counts the answers of a test that are not the ones that are due. */
 final class Due {
+    private static final int SECONDS = 600;
+
     private static int right = 0;
     private static int wrong = 0;
     private static int rightAhead = 0;
     private static int sentences = 0;
     private static String sentence = "";
 
+    static {
+        Thread watch = new Thread(Due::stopAtLast);
+        watch.setDaemon(true);
+        watch.start();
+    }
+
     private Due() {
+    }
+
+    /** A call that does not end is a failure, too. */
+    private static void stopAtLast() {
+        try {
+            Thread.sleep(SECONDS * 1000L);
+        } catch (InterruptedException e) {
+            return;
+        }
+        System.out.println("not at its end behind " + SECONDS + " seconds [" + sentence + "]");
+        Runtime.getRuntime().halt(1);
     }
 
     /**

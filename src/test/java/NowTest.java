@@ -14,6 +14,7 @@ public final class NowTest {
         over();
         pay();
         all();
+        allOfFullPurses();
         allNone();
         left();
         leftNone();
@@ -168,6 +169,32 @@ public final class NowTest {
         WeatherWages none = Mills.of("kind a;");
         Due.is("all(0, 0) without men", none.all(0, 0), 0);
         Due.is("all(0, 1) without men", none.all(0, 1), 0);
+    }
+
+    /** Full purses of all: 99 hours of each of three kinds. */
+    private static void allOfFullPurses() {
+        StringBuilder text = new StringBuilder("kind a;kind b;kind c;man m crop 1;man n crop 1;man o crop 1;man p crop 1;"
+            + "man q crop 1;");
+        for (int pair = 0; pair < 15; pair++) {
+            String names = " " + "mnopq".charAt(pair / 3) + " " + "abc".charAt(pair % 3);
+            text.append("purse" + names + " 60;pay" + names + " 9;");
+        }
+        WeatherWages x = Mills.of(text.toString());
+        for (int week = 0; week < 5; week++) {
+            x.week();
+        }
+        for (int kind = 0; kind < 3; kind++) {
+            Due.is("all(" + kind + ", 0) of full purses", x.all(kind, 0), 495);
+        }
+        Due.is("man(4, 3) of full purses", x.man(4, 3), 297);
+        Due.is("man(4, 4)", x.man(4, 4), 27);
+        Due.is("gulf() of full purses", x.gulf(), 0);
+        for (int kind = 0; kind < 3; kind++) {
+            x.give(2, 0, kind, 99);
+        }
+        Due.is("gulf() to an empty one", x.gulf(), 297);
+        Due.is("richest()", x.richest(), 0);
+        Due.is("all(1, 0)", x.all(1, 0), 396);
     }
 
     private static void allNone() {

@@ -211,6 +211,15 @@ public final class PoolTest {
             + "grow first * (1 + plot * 2);");
         Due.is("joint(0, 2)", far.joint(0, 2), 16 - 8);
         Due.is("joint(0, 1)", far.joint(0, 1), 9 - 3);
+        String two = men + "purse m a 3;purse n a 3;hedge m 0;grow ";
+        WeatherWages much = Mills.of(two + "20 - 40 * (first < 6);");
+        Due.is("pool(0, 1), as much as can be", much.pool(0, 1), 40);
+        Due.lie("pool(0, 1), as much as can be", much, 3, 3);
+        Due.is("joint(0, 1), as much as can be", much.joint(0, 1), 80);
+        WeatherWages spoilt = Mills.of(two + "(plot = 0) * (first = 0) * 20 - (plot = 0) * (first > 0) * 20 "
+            + "+ (plot = 1) * first - (plot = 1) * 20;");
+        Due.is("pool(0, 1), nobody spends", spoilt.pool(0, 1), 0);
+        Due.is("joint(0, 1), the other one spends all the same", spoilt.joint(0, 1), 20 + 17);
     }
 
     private static void jointInTurn() {

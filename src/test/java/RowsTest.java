@@ -254,6 +254,9 @@ public final class RowsTest {
         Due.is("leaks(0), alone", alone.leaks(0), 0);
         WeatherWages bound = Mills.of("kind a;man m crop 1;man n crop 1;hedge m 0;purse m a 5;grow 18 * plot + first;");
         Due.is("leaks(0), 20 at most", bound.leaks(0), 2);
+        String three = "kind a;man m crop 1;man n crop 1;man o crop 1;hedge m 0;hedge n 0;purse n a 8;hours 8;";
+        Due.is("leaks(1), as much as can be", Mills.of(three + "grow first * 5 - 20;").leaks(1), 80);
+        Due.is("leaks(1), much less", Mills.of(three + "grow first * 5 * (1 - 2 * (not plot = 1));").leaks(1), -40);
     }
 
     private static void leaksRefused() {
@@ -299,6 +302,9 @@ public final class RowsTest {
         Due.is("good(1, 1)", x.good(1, 1), 2);
         WeatherWages y = Mills.of("man m crop 1;man n crop 1;grow 3 + plot;");
         Due.is("good(0, 0) without kinds", y.good(0, 0), 7);
+        String five = "kind a;man m crop 1;man n crop 1;man o crop 1;man p crop 1;man q crop 1;purse q a 1;";
+        Due.is("good(4, 0), as much as can be", Mills.of(five + "grow 20;").good(4, 0), 100);
+        Due.is("good(4, 0), as little as can be", Mills.of(five + "grow 0 - 20;").good(4, 0), -100);
         Due.is("good(0, 1) without kinds", y.good(0, 1), 0);
     }
 

@@ -4,7 +4,6 @@ public final class ActsTest {
         + "purse m a 9;purse m b 1;purse n a 60;purse o b 60;hedge m 5;hedge n 0;hours 8;";
     private static final String FIVE = "kind a;kind b;kind c;man m crop 1;man n crop 1;man o crop 1;man p crop 1;"
         + "man q crop 1;";
-    private static final int[] WILD = {Integer.MIN_VALUE, -2, -1, 5, 6, 99, Integer.MAX_VALUE};
 
     public static void main(String[] args) {
         ofHisPurse();
@@ -107,7 +106,7 @@ public final class ActsTest {
         WeatherWages x = Mills.of(full() + "rate a 1 for b 1;");
         x.spend(1, 1, 1);
         x.undo();
-        for (int wild : WILD) {
+        for (int wild : Mills.WILD) {
             Due.is("spend(" + wild + ", 0, 1)", x.spend(wild, 0, 1), -1);
             Due.is("spend(0, " + wild + ", 1)", x.spend(0, wild, 1), -1);
             Due.is("spend(wild)", x.spend(wild, wild, wild), -1);
@@ -240,7 +239,7 @@ public final class ActsTest {
         WeatherWages x = Mills.of(full());
         x.give(1, 2, 1, 1);
         x.undo();
-        for (int wild : WILD) {
+        for (int wild : Mills.WILD) {
             Due.is("give(" + wild + ", 0, 0, 1)", x.give(wild, 0, 0, 1), -1);
             Due.is("give(0, " + wild + ", 0, 1)", x.give(0, wild, 0, 1), -1);
             Due.is("give(0, 1, " + wild + ", 1)", x.give(0, 1, wild, 1), -1);
@@ -326,7 +325,7 @@ public final class ActsTest {
         Due.is("change(1, 2, 0), no rate", x.change(1, 2, 0), -1);
         Due.is("change(0, 1, 2), 1 of 2", x.change(0, 1, 2), -1);
         Due.is("change(1, 0, 1), none of 3", x.change(1, 0, 1), -1);
-        for (int wild : WILD) {
+        for (int wild : Mills.WILD) {
             Due.is("change(" + wild + ", 0, 1)", x.change(wild, 0, 1), -1);
             Due.is("change(0, " + wild + ", 1)", x.change(0, wild, 1), -1);
             Due.is("change(0, 0, " + wild + ")", x.change(0, 0, wild), -1);

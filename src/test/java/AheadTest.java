@@ -1,6 +1,5 @@
 /** Section 3 of the terms, promises 25 to 27: WILL, THRIVE and SAVES. */
 public final class AheadTest {
-    private static final int[] WILD = {Integer.MIN_VALUE, -2, -1, 5, 6, 99, Integer.MAX_VALUE};
 
     public static void main(String[] args) {
         nothingSpent();
@@ -87,7 +86,7 @@ public final class AheadTest {
         Due.is("will(0, min)", x.will(0, Integer.MIN_VALUE), -1);
         Due.is("will(0, max)", x.will(0, Integer.MAX_VALUE), -1);
         Due.is("will(2, 1)", x.will(2, 1), -1);
-        for (int wild : WILD) {
+        for (int wild : Mills.WILD) {
             Due.is("will(" + wild + ", 0)", x.will(wild, 0), -1);
         }
         Due.is("will(0, 0) of nothing told", new WeatherWages().will(0, 0), -1);
@@ -161,7 +160,7 @@ public final class AheadTest {
         Due.is("thrive(0, min)", x.thrive(0, Integer.MIN_VALUE), -1);
         Due.is("thrive(0, max)", x.thrive(0, Integer.MAX_VALUE), -1);
         Due.is("thrive(2, 1)", x.thrive(2, 1), -1);
-        for (int wild : WILD) {
+        for (int wild : Mills.WILD) {
             Due.is("thrive(" + wild + ", 0)", x.thrive(wild, 0), -1);
         }
         Due.is("thrive(0, 0) of nothing told", new WeatherWages().thrive(0, 0), -1);
@@ -223,7 +222,7 @@ public final class AheadTest {
         Due.is("saves(2, 0, 0)", x.saves(2, 0, 0), -1);
         Due.is("saves(0, 2, 0)", x.saves(0, 2, 0), -1);
         Due.is("saves(0, 3, 0)", x.saves(0, 3, 0), -1);
-        for (int wild : WILD) {
+        for (int wild : Mills.WILD) {
             Due.is("saves(" + wild + ", 0, 0)", x.saves(wild, 0, 0), -1);
             Due.is("saves(0, " + wild + ", 0)", x.saves(0, wild, 0), -1);
         }

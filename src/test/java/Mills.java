@@ -1,5 +1,8 @@
 /** Brings texts to the tape. */
 final class Mills {
+    /** No numbers of men, of kinds, of rows, whatever is told. */
+    static final int[] WILD = {Integer.MIN_VALUE, -2, -1, 5, 6, 99, Integer.MAX_VALUE};
+
     private Mills() {
     }
 

@@ -2,7 +2,6 @@
 public final class PoolTest {
     private static final int NOWHERE = -1000000;
     private static final String TWO = "kind a;kind b;man m crop 1;man n crop 1;";
-    private static final int[] WILD = {Integer.MIN_VALUE, -2, -1, 5, 6, 99, Integer.MAX_VALUE};
 
     public static void main(String[] args) {
         bothPurses();
@@ -161,7 +160,7 @@ public final class PoolTest {
     private static void poolRefused() {
         Due.says("22", "-1000000 if one can't be (himself, too).");
         WeatherWages x = Mills.of(TWO + "purse m a 2;");
-        for (int wild : WILD) {
+        for (int wild : Mills.WILD) {
             Due.is("pool(" + wild + ", 0)", x.pool(wild, 0), NOWHERE);
             Due.is("pool(0, " + wild + ")", x.pool(0, wild), NOWHERE);
             Due.is("pool(wild)", x.pool(wild, wild), NOWHERE);
@@ -245,7 +244,7 @@ public final class PoolTest {
     private static void jointRefused() {
         Due.says("23", "-1000000 likewise.");
         WeatherWages x = Mills.of(TWO + "purse m a 2;");
-        for (int wild : WILD) {
+        for (int wild : Mills.WILD) {
             Due.is("joint(" + wild + ", 0)", x.joint(wild, 0), NOWHERE);
             Due.is("joint(0, " + wild + ")", x.joint(0, wild), NOWHERE);
             Due.is("joint(wild)", x.joint(wild, wild), NOWHERE);

@@ -1,7 +1,6 @@
 /** Section 3 of the terms, promises 28 to 31: richest, gulf, most and GAIN. */
 public final class PursesTest {
     private static final String KINDS = "kind a;kind b;kind c;";
-    private static final int[] WILD = {Integer.MIN_VALUE, -2, -1, 5, 6, 99, Integer.MAX_VALUE};
 
     public static void main(String[] args) {
         richest();
@@ -102,7 +101,7 @@ public final class PursesTest {
         Due.says("30", "NONE if there are no KINDS, or there is no such MAN.");
         Due.is("most(0) without kinds", Mills.of("man m crop 1;").most(0), -1);
         WeatherWages x = Mills.of("kind a;man m crop 1;man n crop 1;");
-        for (int wild : WILD) {
+        for (int wild : Mills.WILD) {
             Due.is("most(" + wild + ")", x.most(wild), -1);
         }
         Due.is("most(1)", x.most(1), 0);

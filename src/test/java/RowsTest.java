@@ -3,7 +3,6 @@ public final class RowsTest {
     private static final int NOWHERE = -1000000;
     private static final String KINDS = "kind a;kind b;kind c;";
     private static final String PURSES = KINDS + "man m crop 1;purse m a 6;purse m b 6;purse m c 6;";
-    private static final int[] WILD = {Integer.MIN_VALUE, -2, -1, 5, 6, 99, Integer.MAX_VALUE};
 
     public static void main(String[] args) {
         byWhatIsNow();
@@ -193,7 +192,7 @@ public final class RowsTest {
     private static void bestRefused() {
         Due.says("18", "-1000000 if one can't be.");
         WeatherWages x = Mills.of("kind a;man m crop 1;man n crop 1;purse m a 4;");
-        for (int wild : WILD) {
+        for (int wild : Mills.WILD) {
             Due.is("best(" + wild + ", 0)", x.best(wild, 0), NOWHERE);
             Due.is("best(" + wild + ", 1)", x.best(wild, 1), NOWHERE);
             Due.is("best(0, " + wild + ")", x.best(0, wild), NOWHERE);
@@ -213,7 +212,7 @@ public final class RowsTest {
         Due.lie("best(1, 1)", x, 0, 2);
         x.best(0, 1);
         Due.lie("best(0, 1)", x, 4, 1);
-        for (int wild : WILD) {
+        for (int wild : Mills.WILD) {
             x.best(0, 0);
             x.best(wild, 0);
             Due.lie("best(" + wild + ", 0)", x);
@@ -262,7 +261,7 @@ public final class RowsTest {
     private static void leaksRefused() {
         Due.says("19", "-1000000 if there is none such.");
         WeatherWages x = Mills.of("kind a;man m crop 1;man n crop 1;purse m a 4;");
-        for (int wild : WILD) {
+        for (int wild : Mills.WILD) {
             Due.is("leaks(" + wild + ")", x.leaks(wild), NOWHERE);
         }
         Due.is("leaks(2)", x.leaks(2), NOWHERE);
@@ -311,7 +310,7 @@ public final class RowsTest {
     private static void goodRefused() {
         Due.says("20", "-1000000 if one can't be.");
         WeatherWages x = Mills.of("kind a;man m crop 1;man n crop 1;purse m a 4;");
-        for (int wild : WILD) {
+        for (int wild : Mills.WILD) {
             Due.is("good(" + wild + ", 0)", x.good(wild, 0), NOWHERE);
             Due.is("good(" + wild + ", 1)", x.good(wild, 1), NOWHERE);
             Due.is("good(0, " + wild + ")", x.good(0, wild), NOWHERE);
@@ -329,7 +328,7 @@ public final class RowsTest {
         Due.lie("good(0, 0)", x, 4, 1);
         x.good(1, 1);
         Due.lie("good(1, 1)", x, 0, 2);
-        for (int wild : WILD) {
+        for (int wild : Mills.WILD) {
             x.good(0, 0);
             x.good(wild, 0);
             Due.lie("good(" + wild + ", 0)", x);
@@ -391,7 +390,7 @@ public final class RowsTest {
         Due.is("needs(0, -21)", x.needs(0, -21), -1);
         Due.is("needs(0, max)", x.needs(0, Integer.MAX_VALUE), -1);
         Due.is("needs(0, min)", x.needs(0, Integer.MIN_VALUE), -1);
-        for (int wild : WILD) {
+        for (int wild : Mills.WILD) {
             Due.is("needs(" + wild + ", 0)", x.needs(wild, 0), -1);
         }
         Due.is("needs(2, 0)", x.needs(2, 0), -1);

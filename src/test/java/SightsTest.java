@@ -2,7 +2,6 @@
 public final class SightsTest {
     private static final String MEN = "man m crop 1;man n crop 1;man o crop 1;man p crop 1;man q crop 1;";
     private static final String THREE = "man m crop 1;man n crop 1;man o crop 1;book 5;book 9;book 7;";
-    private static final int[] WILD = {Integer.MIN_VALUE, -2, -1, 5, 6, 99, Integer.MAX_VALUE};
 
     public static void main(String[] args) {
         thirty();
@@ -10,16 +9,29 @@ public final class SightsTest {
         untoldLater();
         ofTheFirstMen();
         atLeast();
+        least();
+        leastRefused();
         moreThanAnother();
+        more();
+        moreRefused();
         orDoesNot();
         knownAt();
         knownInTwoTimes();
+        untell();
+        untellRefused();
+        time();
+        timeRefused();
         ways();
         waysOfFewer();
+        orders();
         sureOfAMan();
         likeBooks();
+        sure();
+        sureRefused();
         askWhom();
         askOfLikeOnes();
+        ask();
+        askRefused();
         Due.end();
     }
 
@@ -105,6 +117,9 @@ public final class SightsTest {
             Due.is("orders(0) of " + number, x.orders(0), 2 * books);
             Due.is("sure(1, 0) of " + number, x.sure(1, 0), books == 1 ? 1 : books == 0 ? -1 : -2);
         }
+    }
+
+    private static void least() {
         Due.says("33", "That a MAN's book tells a number (0 .. 99) at least, or does not:");
         WeatherWages ends = Mills.of("man m crop 1;man n crop 1;book 0;book 99;");
         Due.is("least(0, 0, true)", ends.least(0, 0, true), 0);
@@ -120,8 +135,15 @@ public final class SightsTest {
         Due.is("least", x.least(2, 50, false), 0);
         Due.is("more", x.more(2, 1, false), 1);
         Due.is("least", x.least(2, 50, false), 2);
+    }
+
+    private static void leastRefused() {
         Due.says("33", "NONE, doing nothing, if one can't be, or there are 30.");
-        for (int wild : WILD) {
+        WeatherWages x = Mills.of(THREE);
+        x.least(2, 50, false);
+        x.more(2, 1, false);
+        x.least(2, 50, false);
+        for (int wild : Mills.WILD) {
             Due.is("least(" + wild + ", 5, true)", x.least(wild, 5, true), -1);
         }
         for (int wild : new int[] {Integer.MIN_VALUE, -1, 100, 101, Integer.MAX_VALUE}) {
@@ -151,6 +173,9 @@ public final class SightsTest {
                 Due.is("sure(" + man + ", 0)", x.sure(man, 0), man == other ? -2 : 1);
             }
         }
+    }
+
+    private static void more() {
         Due.says("34", "That a MAN's book tells more than another one's, or does not:");
         WeatherWages x = Mills.of(THREE);
         x.more(0, 1, true);
@@ -162,8 +187,16 @@ public final class SightsTest {
         Due.says("34", "the SIGHT's number;");
         Due.is("more", x.more(0, 2, true), 2);
         Due.is("more", x.more(1, 2, true), 3);
+    }
+
+    private static void moreRefused() {
         Due.says("34", "NONE, doing nothing, if one can't be (himself, too), or there are 30.");
-        for (int wild : WILD) {
+        WeatherWages x = Mills.of(THREE);
+        x.more(0, 1, true);
+        x.more(2, 1, false);
+        x.more(0, 2, true);
+        x.more(1, 2, true);
+        for (int wild : Mills.WILD) {
             Due.is("more(" + wild + ", 0, true)", x.more(wild, 0, true), -1);
             Due.is("more(0, " + wild + ", true)", x.more(0, wild, true), -1);
             Due.is("more(wild)", x.more(wild, wild, false), -1);
@@ -250,13 +283,30 @@ public final class SightsTest {
         Due.is("orders(4)", x.orders(4), 2);
         Due.is("orders(9)", x.orders(9), 0);
         Due.is("orders(10)", x.orders(10), 4);
+    }
+
+    private static void untell() {
         Due.says("35", "It is UNTOLD: true;");
+        WeatherWages x = Mills.of(THREE);
+        x.least(0, 9, true);
+        x.least(0, 9, false);
+        x.later(10);
+        Due.is("untell(0)", x.untell(0), true);
         x.later(5);
         Due.is("untell(1)", x.untell(1), true);
         Due.is("orders(14)", x.orders(14), 4);
         Due.is("orders(15)", x.orders(15), 6);
         Due.is("about(9)", x.about(9), 2);
+    }
+
+    private static void untellRefused() {
         Due.says("35", "false if it is so already, or there is none such.");
+        WeatherWages x = Mills.of(THREE);
+        x.least(0, 9, true);
+        x.least(0, 9, false);
+        x.later(15);
+        x.untell(0);
+        x.untell(1);
         Due.is("untell(0) again", x.untell(0), false);
         Due.is("untell(1) again", x.untell(1), false);
         x.later(1);
@@ -269,7 +319,6 @@ public final class SightsTest {
         x.least(0, 9, true);
         Due.is("orders(16)", x.orders(16), 2);
         Due.is("untell(2)", x.untell(2), true);
-        time();
     }
 
     private static void time() {
@@ -279,7 +328,13 @@ public final class SightsTest {
         Due.is("later(1)", x.later(1), 1);
         Due.is("later(1000)", x.later(1000), 1001);
         Due.is("about(10)", x.about(10), 1001);
+    }
+
+    private static void timeRefused() {
         Due.says("36", "NONE, doing nothing, for another number, or if it would be above 100,000.");
+        WeatherWages x = new WeatherWages();
+        x.later(1000);
+        x.later(1);
         for (int by : new int[] {-1, 1001, -1000, Integer.MIN_VALUE, Integer.MAX_VALUE}) {
             Due.is("later(" + by + ")", x.later(by), -1);
             Due.is("about(10)", x.about(10), 1001);
@@ -333,6 +388,9 @@ public final class SightsTest {
         Due.is("sure(0, 0)", x.sure(0, 0), 1);
         Due.is("sure(1, 0)", x.sure(1, 0), 0);
         Due.is("sure(2, 0)", x.sure(2, 0), -1);
+    }
+
+    private static void orders() {
         Due.says("37", "ORDERS: how many (1 of none).");
         Due.is("orders(0) of nothing told", new WeatherWages().orders(0), 1);
         Due.is("orders(0) without men", Mills.of("book 1;").orders(0), 1);
@@ -359,6 +417,9 @@ public final class SightsTest {
         for (int man = 0; man < 5; man++) {
             Due.is("sure(" + man + ", 0)", x.sure(man, 0), due[man]);
         }
+    }
+
+    private static void sure() {
         Due.says("38", "SURE: the book's place;");
         WeatherWages places = Mills.of("man m crop 1;man n crop 1;book 80;book 3;");
         places.more(0, 1, true);
@@ -366,11 +427,15 @@ public final class SightsTest {
         Due.is("sure(1, 0)", places.sure(1, 0), 1);
         Due.is("sure(0, 0) of one", Mills.of("man m crop 1;book 7;").sure(0, 0), 0);
         Due.says("38", "-2 if it is not the same in all;");
-        Due.is("sure(0, 0)", Mills.of(THREE).sure(0, 0), -2);
-        Due.is("sure(2, -1)", x.sure(2, -1), -2);
+        Due.is("sure(0, 0) of all", Mills.of(THREE).sure(0, 0), -2);
+        Due.is("sure(0, -1)", places.sure(0, -1), -2);
+        Due.is("sure(1, -1)", places.sure(1, -1), -2);
+    }
+
+    private static void sureRefused() {
         Due.says("38", "NONE if there are no ORDERS, or he is none of the first n.");
         WeatherWages none = Mills.of("man m crop 1;man n crop 1;man o crop 1;book 5;book 9;");
-        for (int wild : WILD) {
+        for (int wild : Mills.WILD) {
             Due.is("sure(" + wild + ", 0)", none.sure(wild, 0), -1);
         }
         Due.is("sure(2, 0)", none.sure(2, 0), -1);
@@ -404,6 +469,9 @@ public final class SightsTest {
             Due.is("ask(0, 0), one is known", x.ask(0, 0), man == 0 ? 1 : 0);
             Due.is("ask(1, 0), one is known", x.ask(1, 0), 1);
         }
+    }
+
+    private static void ask() {
         Due.says("39", "ASK what 0: the MAN,");
         WeatherWages x = Mills.of(MEN + "book 10;book 20;book 30;book 40;book 50;");
         Due.is("ask(0, 0)", x.ask(0, 0), 0);
@@ -418,7 +486,12 @@ public final class SightsTest {
         Due.is("ask(1, -1)", x.ask(1, -1), 24);
         Due.is("ask(1, 0)", x.ask(1, 0), 6);
         Due.is("ask(1, 1)", x.ask(1, 1), 2);
+    }
+
+    private static void askRefused() {
         Due.says("39", "NONE if there are no ORDERS, none of n, or for another what.");
+        WeatherWages x = Mills.of(THREE);
+        x.later(1);
         for (int what : new int[] {-1, 2, 3, Integer.MIN_VALUE, Integer.MAX_VALUE}) {
             Due.is("ask(" + what + ", 0)", x.ask(what, 0), -1);
         }

@@ -11,6 +11,7 @@ public final class GrowthTest {
         purseAtMost();
         over();
         leaks();
+        leaksOfNobody();
         leaksOfEachSpending();
         growWord();
         untold();
@@ -102,6 +103,35 @@ public final class GrowthTest {
                     Due.is("over(" + plot + ", 0)", x.over(plot, 0), 0);
                 }
             }
+        }
+    }
+
+    /** Ahead of the first plot and behind the last one there is nobody, however low the hedge. */
+    private static void leaksOfNobody() {
+        for (int men = 1; men <= 5; men++) {
+            String text = "kind a;kind b;kind c;" + FIVE.substring(0, 13 * men);
+            for (int man = 0; man < men; man++) {
+                String name = " " + "mnopq".charAt(man);
+                text += "hedge" + name + " 0;purse" + name + " a 9;purse" + name + " b 9;purse" + name + " c 9;";
+            }
+            WeatherWages x = Mills.of(text + "hours 8;");
+            for (int man = 0; man < men; man++) {
+                int reached = 1 + (man > 0 ? 1 : 0) + (man < men - 1 ? 1 : 0);
+                Due.is("man(" + man + ", 2) of " + men, x.man(man, 2), 0);
+                Due.is("best(" + man + ", 0) of " + men, x.best(man, 0), 8);
+                Due.is("good(" + man + ", 0) of " + men, x.good(man, 0), 8 * reached);
+                Due.is("leaks(" + man + ") of " + men, x.leaks(man), 8 * (reached - 1));
+                Due.is("thrive(" + man + ", 1) of " + men, x.thrive(man, 1), 9);
+            }
+            Due.is("rest() of " + men + ", 20 at most", x.rest(), men <= 2 ? 1 : 2);
+            x.spend(men - 1, 2, 2);
+            x.spend(0, 1, 1);
+            Due.is("man(last, 2) of " + men, x.man(men - 1, 2), men <= 2 ? 3 : 2);
+            Due.is("man(0, 2) of " + men, x.man(0, 2), men <= 2 ? 3 : 1);
+            Due.is("all(2, 1) of " + men, x.all(2, 1), men == 1 ? 2 : 4);
+            Due.is("all(1, 1) of " + men, x.all(1, 1), men == 1 ? 1 : 2);
+            Due.is("all(0, 1) of " + men, x.all(0, 1), 0);
+            Due.is("all(0, 0) of " + men, x.all(0, 0), 9 * men);
         }
     }
 

@@ -3,9 +3,13 @@ import java.lang.reflect.Array;
 import java.lang.reflect.Field;
 import java.lang.reflect.Modifier;
 import java.util.ArrayDeque;
+import java.util.ArrayList;
+import java.util.Arrays;
 import java.util.Collections;
 import java.util.Deque;
 import java.util.IdentityHashMap;
+import java.util.List;
+import java.util.Objects;
 import java.util.Set;
 
 /** All calls of a run live in one room, nothing is thrown, and two runs answer the same. */
@@ -47,24 +51,56 @@ public final class RoomTest {
         int cells = 0;
         while (!open.isEmpty()) {
             Object one = open.remove();
-            if (one.getClass().isArray()) {
-                cells += Array.getLength(one);
-                continue;
-            }
-            for (Field field : one.getClass().getDeclaredFields()) {
-                if (Modifier.isStatic(field.getModifiers())) {
-                    continue;
-                }
-                cells++;
-                field.setAccessible(true);
-                Object held = field.getType().isPrimitive() ? null : field.get(one);
-                if (held != null && seen.add(held)) {
-                    open.add(held);
+            List<Object> held = heldBy(one);
+            cells += cellsOf(one);
+            for (Object part : held) {
+                if (seen.add(part)) {
+                    open.add(part);
                 }
             }
         }
         Due.holds("a new object is " + seen.size() + " objects", seen.size() <= 6000);
         Due.holds("a new object is " + cells + " fields and elements", cells <= 73000);
+    }
+
+    private static List<Field> fieldsOf(Object one) {
+        List<Field> fields = new ArrayList<>();
+        for (Class<?> type = one.getClass(); type != null && type.getClassLoader() != null; type = type.getSuperclass()) {
+            for (Field field : type.getDeclaredFields()) {
+                if (!Modifier.isStatic(field.getModifiers())) {
+                    fields.add(field);
+                }
+            }
+        }
+        return fields;
+    }
+
+    /** Of what the library makes: the characters of a text, the elements of a list. */
+    private static int cellsOf(Object one) {
+        if (one.getClass().isArray()) {
+            return Array.getLength(one);
+        }
+        if (one instanceof CharSequence) {
+            return ((CharSequence) one).length();
+        }
+        return one instanceof List ? ((List<?>) one).size() : fieldsOf(one).size();
+    }
+
+    private static List<Object> heldBy(Object one) throws IllegalAccessException {
+        List<Object> held = new ArrayList<>();
+        if (one instanceof Object[]) {
+            held.addAll(Arrays.asList((Object[]) one));
+        } else if (one instanceof List) {
+            held.addAll((List<?>) one);
+        }
+        for (Field field : fieldsOf(one)) {
+            if (!field.getType().isPrimitive()) {
+                field.setAccessible(true);
+                held.add(field.get(one));
+            }
+        }
+        held.removeIf(Objects::isNull);
+        return held;
     }
 
     private static long made() {

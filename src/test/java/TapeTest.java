@@ -3,7 +3,7 @@ public final class TapeTest {
     private static final int BLANKS = 0x20202020;
 
     public static void main(String[] args) {
-        readmeExample();
+        twoFeeds();
         twentyBehind();
         highestFirst();
         wildNumbers();
@@ -133,7 +133,8 @@ public final class TapeTest {
         Due.is("about(2)", x.about(2), 1);
     }
 
-    private static void readmeExample() {
+    /** kind sun;man ann crop 3;purse ann sun 4; */
+    private static void twoFeeds() {
         WeatherWages x = new WeatherWages();
         Due.is("feed 1", x.feed(0x6b696e64, 0x2073756e, 0x3b6d616e, 0x20616e6e, 0x2063726f), 20);
         Due.is("feed 2", x.feed(0x7020333b, 0x70757273, 0x6520616e, 0x6e207375, 0x6e20343b), 40);

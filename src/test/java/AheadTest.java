@@ -111,6 +111,10 @@ public final class AheadTest {
             + "hours 4;grow first + second * 2 + third * 3;");
         Due.is("thrive(1, 1) of three kinds", y.thrive(1, 1), 12);
         Due.is("thrive(1, 2) of three kinds", y.thrive(1, 2), 15);
+        WeatherWages own = Mills.of("kind a;man m crop 1;man n crop 40;purse m a 9;hours 2;hedge m 0;"
+            + "grow first * (1 - 4 * plot);");
+        Due.is("thrive(0, 1), whatever becomes of others", own.thrive(0, 1), 3);
+        Due.is("thrive(0, 3), whatever becomes of others", own.thrive(0, 3), 7);
         y.best(1, 0);
         y.thrive(0, 2);
         Due.lie("thrive", y, 0, 1, 3);

@@ -244,6 +244,13 @@ public final class GrammarTest {
         Texts.fault(2, "grow (1)@)");
         Texts.fault(2, "grow (1 + @) + 1;");
         Texts.fault(2, "grow (1 @2);");
+        Texts.fault(2, "grow (@;");
+        Texts.fault(2, "grow (1 + @;");
+        Texts.fault(2, "grow (@* 2);");
+        Texts.fault(2, "grow (1 + @* 2);");
+        Texts.fault(2, "grow (1 < @< 2);");
+        Texts.fault(2, "grow (1 and @or 2);");
+        Texts.fault(2, "grow ((@+ 2));");
         Texts.fault(2, "grow @fourth;");
         Texts.fault(2, "grow @loose;");
     }

@@ -8,6 +8,7 @@ public final class MillTest {
         tapeIsEmpty();
         allAsTold();
         allElseAsNotTold();
+        growAnew();
         weekNothing();
         noActs();
         noSights();
@@ -114,6 +115,23 @@ public final class MillTest {
         Due.is("gain(0)", x.gain(0), -1);
         Due.is("mill() of the full one again", Mills.tell(x, full.toString()), 5);
         Due.is("about(3)", x.about(3), 6);
+    }
+
+    private static void growAnew() {
+        WeatherWages x = Mills.of("man m crop 7;grow 5 - 2;");
+        Due.is("man(0, 2)", x.man(0, 2), 3);
+        Mills.tell(x, "man m crop 7;grow 9 - crop - 1;");
+        Due.is("man(0, 2) by another grow", x.man(0, 2), 1);
+        Due.is("about(12)", x.about(12), 3);
+        Mills.tell(x, "kind a;man m crop 7;purse m a 4;");
+        Due.is("about(12), not told", x.about(12), 0);
+        x.spend(0, 0, 2);
+        Due.is("man(0, 2), not told", x.man(0, 2), 2);
+        Due.is("mill() with a fault behind grow", Mills.tell(x, "man m crop 7;grow 8;?"), -1);
+        Due.is("man(0, 2), all else stays", x.man(0, 2), 2);
+        Mills.tell(x, "man m crop 7;grow 6;");
+        Due.is("man(0, 2) by grow behind a fault", x.man(0, 2), 6);
+        Due.is("about(12)", x.about(12), 1);
     }
 
     private static void weekNothing() {

@@ -319,6 +319,10 @@ public final class PoolTest {
     private static void restAnswers() {
         Due.says("24", "REST: how many rounds;");
         Due.is("rest() of nothing told", new WeatherWages().rest(), 0);
+        WeatherWages emptied = Mills.of("kind a;man m crop 1;man n crop 1;purse m a 3;purse n a 2;");
+        Due.is("rest() of two", emptied.rest(), 1);
+        emptied.mill();
+        Due.is("rest() of an empty mill behind it", emptied.rest(), 0);
         Due.is("rest() without kinds", Mills.of("man m crop 1;man n crop 1;grow 3;").rest(), 0);
         Due.is("rest() without purses", Mills.of("kind a;man m crop 1;man n crop 1;").rest(), 0);
         Due.is("rest() of one that spends", Mills.of("kind a;man m crop 1;man n crop 1;purse n a 1;").rest(), 1);

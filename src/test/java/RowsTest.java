@@ -247,6 +247,13 @@ public final class RowsTest {
         Due.lie("leaks", x, 3);
         x.spend(1, 0, 1);
         Due.is("leaks(1) behind one hour", x.leaks(1), -2);
+        WeatherWages crops = Mills.of("kind a;man m crop 4;man n crop 7;hedge m 5;purse m a 8;hours 6;"
+            + "grow first * crop - week;");
+        Due.is("leaks(0) by crops", crops.leaks(0), 14);
+        crops.spend(0, 0, 2);
+        Due.is("leaks(0) by crops, over 2", crops.leaks(0), 14 - 7);
+        crops.week();
+        Due.is("leaks(0) by crops of week 1", crops.leaks(0), 14);
         WeatherWages two = Mills.of("kind a;man m crop 1;man n crop 1;man o crop 1;hedge m 0;hedge n 0;purse n a 5;grow 3 + first;");
         Due.is("leaks(1) to both", two.leaks(1), 10);
         WeatherWages alone = Mills.of("kind a;man m crop 1;purse m a 5;");

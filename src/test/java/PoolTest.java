@@ -82,6 +82,12 @@ public final class PoolTest {
             Due.lie("pool(0, 1), " + spent + " spent", x, left, 3);
             Due.is("pool(1, 0), " + spent + " spent", x.pool(1, 0), spent + left + 3);
             Due.lie("pool(1, 0), " + spent + " spent", x, 3, left);
+            WeatherWages y = Mills.of(men);
+            y.spend(1, 0, spent);
+            Due.is("pool(1, 0), " + spent + " spent by the one", y.pool(1, 0), spent + left + 3);
+            Due.lie("pool(1, 0), " + spent + " spent by the one", y, left, 3);
+            Due.is("pool(0, 1), " + spent + " spent by the other", y.pool(0, 1), spent + left + 3);
+            Due.lie("pool(0, 1), " + spent + " spent by the other", y, 3, left);
         }
     }
 
